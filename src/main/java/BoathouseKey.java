@@ -793,7 +793,7 @@ public final class BoathouseKey {
             if (figure < 0 || figure > 9 || !isRight(figure, draft)) {
                 return false;
             }
-            record(figure, draft);
+            noteFigure(figure, draft);
             return true;
         }
 
@@ -831,7 +831,7 @@ public final class BoathouseKey {
             return draft.isPerson(i) && busy[i] != ALL_HOURS;
         }
 
-        private void record(int figure, Club draft) {
+        private void noteFigure(int figure, Club draft) {
             if (figures + 1 == figuresOf(letter)) {
                 endPart(figure, draft);
                 letter = 0;
