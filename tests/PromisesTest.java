@@ -149,6 +149,11 @@ public final class PromisesTest {
         clubFault("N1P011O055O", 10);
         clubFault("N1P011O055P111O0", 15);
         clubFault("N1O055P011", 2);
+        clubFault("N1P000P100O055O155O", 18);
+        clubFault("N1P000P100P200O055O155O0", 23);
+        clubFault("N1P000P100P200O055O155O2", 24);
+        clubFault("N1R000R011R00", 12);
+        clubFault("N1F1", -9);
         clubFault("N2H2", 3);
         clubFault("N2H19H1", 6);
         clubFault("N2H19H09", -9);
@@ -425,6 +430,9 @@ public final class PromisesTest {
         Texts.rule(w, 0, "N");
         due(18, "N to oneself", 8, w.week(0, 10, 0));
         due(18, "N to oneself", 10, w.week(0, 10, 3));
+        BoathouseKey v = Texts.club("N2R100H15");
+        Texts.rule(v, 0, "N");
+        due(18, "N to oneself at hour 0", 5, v.week(0, 11, 0));
     }
 
     private static void bringing() {
@@ -474,6 +482,23 @@ public final class PromisesTest {
         due(16, "other was kept there", 0, x.keep(1));
         due(17, "it is kept now", 4, x.again(1));
         due(17, "and stays kept", 4, x.again(1));
+        BoathouseKey y = Texts.club("N2R012R145");
+        y.bring(11);
+        y.hour(0);
+        y.hour(0);
+        y.keep(0);
+        y.hour(0);
+        due(15, "nobody outside", 0, y.live(2));
+        due(15, "stood twice", 2, y.live(5));
+        due(17, "again", 2, y.again(0));
+        due(15, "p0 stands outside again", 1, y.live(2));
+        due(15, "stood once", 1, y.live(5));
+        due(13, "with p1", 11, y.where());
+        BoathouseKey z = Texts.club("N2R012R145");
+        z.keep(1);
+        Texts.put(z, "N2R0");
+        z.make();
+        due(17, "no club, so it is kept still", 0, z.again(1));
     }
 
     private static void shiftAndAgain() {
@@ -636,6 +661,17 @@ public final class PromisesTest {
         y.own(2);
         due(25, "none", -9, y.find(1, 1));
         due(28, "none such", 10, y.bar());
+        // p1 would keep what N gives it: p2 comes in only by a place.
+        BoathouseKey z = Texts.club("N3R000R122R244");
+        z.own(2);
+        due(28, "bar", 4, z.bar());
+        BoathouseKey w = Texts.club("N3R000R122R244P000");
+        w.own(2);
+        due(28, "by place 0", 10, w.bar());
+        due(25, "by place 0", 0, w.find(1, 1));
+        due(26, "by place 0", 0, w.from(1, 1));
+        w.own(0);
+        due(27, "by place 0", 0, w.way(1, 1, 4));
     }
 
     private static void shortRules() {
