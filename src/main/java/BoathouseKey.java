@@ -1299,7 +1299,7 @@ public final class BoathouseKey {
         }
 
         private static boolean isStep(int hour, int spot, int act) {
-            return isHour(hour) && spot >= 0 && spot < SPOTS && act >= 0 && act < ACTS;
+            return hour >= 0 && hour < HOURS && spot >= 0 && spot < SPOTS && act >= 0 && act < ACTS;
         }
 
         /** The spot of the key behind the hour, or NONE: somebody stood. */
