@@ -287,11 +287,15 @@ public final class BoundsOfHoursTest {
 
     private static void tenHours() {
         due.asks("THE KEY is there at HOUR 0, ten HOURS go by; ITS END: where THE KEY is then");
-        BoathouseKey x = club("N3R024R156R238R199P231P018O026O238H09H14", "4P09P0P2");
-        int[] from = {0, 2, 10, 11, 12};
+        tenHoursOf("N3R024R156R238R199P231P018O026O238H09H14", "4P09P0P2", new int[] {0, 2, 10, 11, 12});
+        tenHoursOf("N2R012R145H13F5", "N", new int[] {10, 11});
+        tenHoursOf("N2R012R145P012H13F5", "P0", new int[] {0, 10, 11});
+        tenHoursOf("N6R009R109R209R309R409R509P012F9", "P0", new int[] {0, 10, 15});
+    }
+
+    private static void tenHoursOf(String text, String rule, int[] from) {
         for (int begin : from) {
-            Texts.put(x, "N3R024R156R238R199P231P018O026O238H09H14");
-            x.make();
+            BoathouseKey x = club(text, rule);
             x.bring(begin);
             for (int h = 0; h < 10; h++) {
                 due.is("ahead of " + h, x.where(), x.ahead(0, begin, h));
@@ -304,9 +308,8 @@ public final class BoundsOfHoursTest {
             due.is("ITS END", x.where(), x.week(0, begin, 3));
             due.is("nobody is inside at its end", 0, x.live(1));
             due.is("nor outside", 0, x.live(2));
+            due.is("the hour that comes next", 0, x.live(0));
         }
-        due.asks("a WEEK is none of what is LIVE");
-        due.is("the hour that comes next", 0, x.live(0));
     }
 
     private static void everIs(String text, String rule, int own, int begin, int[] want) {
@@ -505,6 +508,11 @@ public final class BoundsOfHoursTest {
     }
 
     private static void row() {
+        due.asks("THE ROW (99 at first: it is not told)");
+        BoathouseKey first = new BoathouseKey();
+        due.is("judge", -9, first.judge(0, 10));
+        for (int h = 0; h < 10; h++) due.is("tell of " + h, 99, first.tell(h, 10));
+        due.is("judge", -9, first.judge(0, 10));
         due.asks("THE ROW tells of an HOUR where THE KEY should be (0 .. 3, 10 .. 15, 20, 99): what it told. UNKNOWN: hour; BAD.");
         BoathouseKey x = Texts.club("N1");
         int told = 99;

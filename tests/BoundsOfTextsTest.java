@@ -18,9 +18,11 @@ public final class BoundsOfTextsTest {
         notAtItsEnd();
         lengthSetAside();
         rules();
+        readAnew();
         exceptions();
         shortRules();
         making();
+        madeOverAndOver();
         owning();
         due.end();
     }
@@ -195,6 +197,9 @@ public final class BoundsOfTextsTest {
         club("N1R044R0", "012356789");
         club("N1R044R022R00", "01");
         club("N1R022R044R03", "3");
+        club("N1R044R022R0", "01356789");
+        club("N1R044R022R03", "3");
+        club("N1R044R022R066R0", "0135789");
     }
 
     private static void secondSession(int s, int e, int t, int f) {
@@ -266,6 +271,8 @@ public final class BoundsOfTextsTest {
         club("N1P211O209", "RPHF");
         club("N1P211O209P011", "RPOHF");
         club("N1P211O209P011O", "0");
+        club("N1P011P111O009O109", "RPHF");
+        club("N1P011P111P211O009O109O", "2");
         due.asks("from HOUR s to HOUR e alone (e no less; else always)");
         club("N1P211O2", FIGURES);
         for (int s = 0; s <= 9; s++) {
@@ -370,6 +377,29 @@ public final class BoundsOfTextsTest {
         rule("0H1H2H3H4H5H6H7H8H9HN", "");
     }
 
+    /** Of a text that was read before nothing stays, wherever it broke off. */
+    private static void readAnew() {
+        due.asks("fault: FAULT of a CLUB (rule = false), of a RULE; NONE.");
+        String[] before = {"", "P", "5", "5P", "5H", "5P2", "H", "HH", "N", "N4", "N4R", "N4R1", "N4R13", "N4R134", "N4P", "N4P1",
+            "N4P111O", "N4P111O1", "N4P111O155", "N4H", "N4H22", "N4F", "N4F5", "N4F5R009R1", "x"};
+        for (String text : before) {
+            BoathouseKey x = new BoathouseKey();
+            Texts.put(x, text);
+            x.fault(true);
+            x.fault(false);
+            Texts.put(x, "5P2H");
+            due.is("a rule behind " + text, -9, x.fault(true));
+            due.is("a rule behind " + text, 1, x.rule(0));
+            due.is("its exception", 2, x.ruled(0, 5));
+            due.is("else", 4, x.ruled(0, 2));
+            Texts.put(x, "N2R009R134P100O155H22");
+            due.is("person 2 is none", 19, x.fault(false));
+            Texts.put(x, "N2R009R134P100O155H12F5");
+            due.is("a club behind " + text, -9, x.fault(false));
+            due.is("make", 2, x.make());
+        }
+    }
+
     private static void exceptions() {
         due.asks("rule: THE TEXT is a RULE: how many EXCEPTIONS.");
         String acts = "HNHNHNHNHN";
@@ -461,6 +491,35 @@ public final class BoundsOfTextsTest {
         due.is("of the old hours nothing stays", 0, y.place(0, 2));
         due.is("of the old hours nothing stays", 9, y.place(0, 3));
         due.is("the first person has the key", 10, y.where());
+    }
+
+    private static void madeOverAndOver() {
+        due.asks("make: THE TEXT is THE CLUB (of what was THE CLUB nothing stays)");
+        BoathouseKey x = Texts.club("N3R255P077P177P277P377H09H19H29F9");
+        for (int i = 0; i < 3; i++) {
+            x.own(5);
+            due.is("make once more", 3, x.make());
+        }
+        for (int i = 0; i < 3; i++) {
+            Texts.put(x, "N3R255");
+            due.is("make", 3, x.make());
+            for (int person = 0; person < 3; person++) due.is("home " + person, 0, x.home(person));
+            due.is("tenths", 0, x.count(3));
+            due.is("places", 0, x.count(2));
+            due.is("own", 0, x.own(0));
+            for (int act = 0; act < 6; act++) {
+                x.put(1, act);
+                due.is("there is no place to lay it", 12, x.week(1, 12, 3));
+                due.is("none walks", 0, x.week(1, 12, 0));
+            }
+        }
+        Texts.put(x, "N1P011");
+        x.make();
+        due.is("sessions", 0, x.count(1));
+        due.is("session 0", -1, x.session(0, 0));
+        due.is("people", 1, x.count(0));
+        due.is("no more", -1, x.home(1));
+        due.is("nobody rows", 0, x.week(0, 10, 2));
     }
 
     private static void owning() {

@@ -9,6 +9,7 @@ public final class BoundsOfWaysTest {
         noneDone();
         endIsBegin();
         bars();
+        barsByPlaces();
         shortLead();
         shortMean();
         shortLeastNumber();
@@ -111,6 +112,9 @@ public final class BoundsOfWaysTest {
         for (int h = 0; h < 10; h++) due.is("hour " + h, acts[h], x.way(9, 9, h));
         BoathouseKey none = new BoathouseKey();
         for (int h = 0; h < 10; h++) due.is("hour " + h, 0, none.way(9, 9, h));
+        BoathouseKey both = Texts.club("N2R006R114P011P111P211P311");
+        for (int h = 0; h < 10; h++) due.is("p1 goes at 4, p0 at 6: " + h, h == 6 ? 4 : 0, both.way(9, 9, h));
+        due.is("from", 10, both.from(9, 9));
     }
 
     private static void endIsBegin() {
@@ -129,6 +133,13 @@ public final class BoundsOfWaysTest {
         BoathouseKey z = club("N2R000R111", "H", 0);
         due.is("with none", 0, z.find(1, 1));
         due.is("N at 1", 5, z.way(1, 1, 1));
+        z.own(2);
+        due.is("then there is none again", -9, z.find(1, 1));
+        z.own(0);
+        due.is("and again one", 10, z.from(1, 1));
+        z.own(2);
+        due.is("and none", -9, z.from(1, 1));
+        due.is("and none", -9, z.way(1, 1, 1));
     }
 
     private static void bars() {
@@ -148,6 +159,24 @@ public final class BoundsOfWaysTest {
             due.is("the least of the hours", h < 9 ? h : 10, z.bar());
         }
         due.is("nobody rows", 10, new BoathouseKey().bar());
+    }
+
+    /** p1 keeps what it is given: only by a place p2 comes in, that is OPEN when p0 goes and when p2 comes. */
+    private static void barsByPlaces() {
+        due.asks("by no WAY from any BEGIN HOURS 0 .. h go by and nobody STOOD");
+        due.is("without a place", 6, club("N3R022R144R266", "H", 2).bar());
+        for (int p = 0; p < 4; p++) {
+            for (int s = 0; s <= 9; s++) {
+                for (int e = s; e <= 9; e++) {
+                    BoathouseKey x = club("N3R022R144R266P" + p + "11O" + p + s + e, "H", 2);
+                    boolean open = s <= 2 && e >= 6;
+                    due.is("place " + p + " open " + s + " .. " + e, open ? 10 : 6, x.bar());
+                    due.is("find", open ? 2 + 3 : -9, x.find(1, 1));
+                    due.is("from", open ? 10 : -9, x.from(1, 1));
+                    due.is("the act at 2", open ? p : -9, x.way(1, 1, 2));
+                }
+            }
+        }
     }
 
     private static void shortLead() {
