@@ -350,6 +350,25 @@ public final class BoundsOfHoursTest {
         String two = "N3R211P231R122R244R067P073R188O039R199H27O249";
         everIs(two, "9P27N6P3P3", 0, 2, new int[] {0, 2});
         everIs(two, "9P27N6P3P3", 0, 0, new int[] {1, 2});
+        // p1's own key opens where THE KEY is not at hand: so a ring of two weeks in which nobody stands.
+        String ownKeyOpens = "N3R001R100R233R133R066R166P041O003P152O139";
+        everIs(ownKeyOpens, "3P0P1", 2, 0, new int[] {0, 2});
+        everIs(ownKeyOpens, "3P0P1", 2, 1, new int[] {0, 2});
+        everIs(ownKeyOpens, "3P0P1", 2, 10, new int[] {1, 2});
+        everIs(ownKeyOpens, "3P0P1", 2, 11, new int[] {0, 1});
+        everIs(ownKeyOpens, "3P0P1", 2, 12, new int[] {1, 2});
+        ringOfTwoIsTold(ownKeyOpens);
+    }
+
+    private static void ringOfTwoIsTold(String text) {
+        BoathouseKey x = club(text, "3P0P1");
+        x.own(2);
+        due.is("WALKED: 5 and 4, then 4 and 5", 18, x.ever(0, 0, 2));
+        due.is("RISK: 6 hours of 1, then 6 hours of 2", 18, x.ever(0, 0, 3));
+        due.is("STOOD", 0, x.ever(0, 0, 4));
+        due.is("never", 1, x.never(0, 0));
+        x.own(0);
+        due.is("never without an own key", 0, x.never(0, 0));
     }
 
     private static void leadCounts() {
