@@ -23,6 +23,7 @@ public final class BoundsOfWaysTest {
         fitting();
         shifting();
         shiftIsLate();
+        shiftBehindWhatWasKept();
         due.end();
     }
 
@@ -419,5 +420,41 @@ public final class BoundsOfWaysTest {
             due.is("UNKNOWN is told ahead of BAD", -1, y.shift(1, 8));
             due.is("UNKNOWN is told ahead of BAD", -1, y.shift(0, -1));
         }
+    }
+
+    /** What was kept stays as it was, though a SESSION has other hours now: it goes when it ends now. */
+    private static void shiftBehindWhatWasKept() {
+        due.asks("again: It is as it was kept. Those go whose SESSIONS end at h");
+        keptThenShifted(5, 7);
+        keptThenShifted(6, 8);
+        keptThenShifted(7, 9);
+        keptThenShifted(0, 2);
+    }
+
+    /** Kept behind hour 2, when its session went from 2 to 4; now it goes from begin to end. */
+    private static void keptThenShifted(int begin, int end) {
+        BoathouseKey in = Texts.club("N2R024");
+        BoathouseKey out = Texts.club("N2R124");
+        for (int h = 0; h < 3; h++) due.is("who stands at " + h, h == 2 ? 1 : 0, in.hour(0) + out.hour(0));
+        in.keep(0);
+        out.keep(0);
+        for (int h = 3; h < 5; h++) due.is("who stands at " + h, 1, in.hour(0) + out.hour(0));
+        due.is("shift", 2, in.shift(0, begin));
+        due.is("shift", 2, out.shift(0, begin));
+        due.is("again", 3, in.again(0));
+        due.is("again", 3, out.again(0));
+        int hours = (end - 3 + 10) % 10 + 1;
+        for (int i = 1; i <= hours; i++) {
+            due.is("LATE: it is INSIDE", -3, in.shift(0, 2));
+            due.is("LATE: it is OUTSIDE", -3, out.shift(0, 2));
+            due.is("it is INSIDE", 0, in.hour(0));
+            due.is("it stands: one hour each", 1, out.hour(0));
+            due.is("INSIDE, till it ends", i < hours ? 1 : 0, in.live(1));
+            due.is("OUTSIDE, till it ends", i < hours ? 1 : 0, out.live(2));
+            due.is("THE KEY", i < hours ? 20 : 10, in.where());
+            due.is("STOOD", i + 1, out.live(5));
+        }
+        due.is("the hours are as they were shifted", begin, in.shift(0, 2));
+        due.is("the hours are as they were shifted", begin, out.shift(0, 2));
     }
 }
