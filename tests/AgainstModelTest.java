@@ -109,7 +109,7 @@ public final class AgainstModelTest {
         if (type == long.class) return random.nextLong();
         if (random.nextInt(30) == 0) return new int[] {-1, 10, 16, 99, 21, 366, Integer.MIN_VALUE, Integer.MAX_VALUE}[random.nextInt(8)];
         String name = call.getName();
-        int begin = random.nextInt(3) == 0 ? random.nextInt(4) : 10 + random.nextInt(4);
+        int begin = random.nextInt(3) == 0 ? random.nextInt(4) : 10 + random.nextInt(6);
         boolean ruleFirst = "week ahead outside ever never judge keys move mean dry chance look".contains(name);
         if (ruleFirst && i == 0 || name.equals("hour") || name.equals("put") && i == 0) return random.nextInt(3);
         if (ruleFirst && i == 1 || name.equals("bring") || name.startsWith("brief") && i == 0) return begin;
@@ -119,8 +119,9 @@ public final class AgainstModelTest {
         if (name.equals("tell") && i == 1 || name.equals("chance") && i == 3) {
             return new int[] {0, 1, 2, 3, 10, 11, 12, 13, 14, 15, 20, 20, 99}[random.nextInt(13)];
         }
-        if ((name.equals("session") || name.equals("fits") || name.equals("shift")) && i == 0) return random.nextInt(5);
-        if (name.equals("place") || name.equals("home") || name.equals("look") && i == 3) return random.nextInt(4);
+        if ((name.equals("session") || name.equals("fits") || name.equals("shift")) && i == 0) return random.nextInt(8);
+        if (name.equals("home")) return random.nextInt(6);
+        if (name.equals("place") || name.equals("look") && i == 3) return random.nextInt(4);
         if (name.equals("week") || name.equals("ever") || name.equals("live") || name.equals("count")) return random.nextInt(6);
         return random.nextInt(10);
     }

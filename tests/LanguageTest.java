@@ -13,14 +13,7 @@ import java.util.regex.Pattern;
 
 /** The rules of LANGUAGE.md that a program can look at, the document's face, and that calls make no objects. */
 public final class LanguageTest {
-    private static final String FACE = "int write(int,long) int wipe() int fault(boolean) int make() int rule(int) "
-        + "int ruled(int,int) int session(int,int) int place(int,int) int home(int) int own(int) int hour(int) int where() "
-        + "int bring(int) int live(int) int keep(int) int again(int) int week(int,int,int) int ahead(int,int,int) "
-        + "int outside(int,int,int) int ever(int,int,int) int never(int,int) int tell(int,int) int judge(int,int) "
-        + "int find(int,int) int from(int,int) int way(int,int,int) int bar() int brief(int,int,int) "
-        + "long briefPrice(int,int,int,boolean) int put(int,int) int keys(int,int) int move(int,int) int fits(int,int) "
-        + "int shift(int,int) long mean(int,int,boolean) long dry(int,int,boolean) long chance(int,int,int,int,boolean) "
-        + "int look(int,int,int,int) int count(int)";
+    private static final String DOCUMENT = "../shared/DOC.md";
     private static int wrong = 0;
 
     private static void holds(boolean holds, String what) {
@@ -39,9 +32,38 @@ public final class LanguageTest {
         if (wrong != 0) System.exit(1);
     }
 
-    private static void face() {
-        Set<String> due = new TreeSet<>();
-        for (String part : FACE.replace(") ", ");").split(";")) due.add(part);
+    /** The face as the document writes it out: a line each for the class, the constants, the constructor, the methods. */
+    private static String[] linesOfTheFace() throws IOException {
+        Matcher face = Pattern.compile("(?s)## The public face\\s+```java\n(.*?)```").matcher(Files.readString(Path.of(DOCUMENT)));
+        holds(face.find(), "the document has a face");
+        return face.group(1).split("\n");
+    }
+
+    private static void face() throws IOException {
+        Set<String> methods = new TreeSet<>();
+        Set<String> constants = new TreeSet<>();
+        for (String line : linesOfTheFace()) {
+            Matcher method = Pattern.compile("public (int|long) (\\w+)\\((.*)\\);").matcher(line.strip());
+            Matcher constant = Pattern.compile("public static final int (.*);").matcher(line.strip());
+            if (method.matches()) {
+                String types = method.group(3).replaceAll(" \\w+(?=,|$)", "").replace(" ", "");
+                methods.add(method.group(1) + " " + method.group(2) + "(" + types + ")");
+            } else if (constant.matches()) {
+                for (String part : constant.group(1).split(", ")) constants.add("int " + part);
+            } else {
+                holds(Set.of("public final class BoathouseKey {", "public BoathouseKey();", "}").contains(line.strip()), line);
+            }
+        }
+        holds(methods.size() == 39 && constants.size() == 5, "39 methods, 5 constants: " + methods + constants);
+        methods(methods);
+        fields(constants);
+        Constructor<?>[] made = BoathouseKey.class.getDeclaredConstructors();
+        holds(made.length == 1 && Modifier.isPublic(made[0].getModifiers()) && made[0].getParameterCount() == 0, "one constructor");
+        holds(BoathouseKey.class.getModifiers() == (Modifier.PUBLIC | Modifier.FINAL), "a public final class");
+        holds(BoathouseKey.class.getSuperclass() == Object.class && BoathouseKey.class.getInterfaces().length == 0, "of its own");
+    }
+
+    private static void methods(Set<String> due) {
         Set<String> is = new TreeSet<>();
         Set<String> names = new TreeSet<>();
         for (Method m : BoathouseKey.class.getDeclaredMethods()) {
@@ -50,6 +72,7 @@ public final class LanguageTest {
             for (Class<?> c : m.getParameterTypes()) types.append(types.length() == 0 ? "" : ",").append(c);
             is.add(m.getReturnType() + " " + m.getName() + "(" + types + ")");
             names.add(m.getName());
+            holds(m.getModifiers() == Modifier.PUBLIC && m.getExceptionTypes().length == 0, "public, and no more: " + m);
         }
         holds(is.equals(due), "the public methods are the document's: " + is);
         for (Method m : BoathouseKey.class.getDeclaredMethods()) {
@@ -57,19 +80,27 @@ public final class LanguageTest {
             holds(Modifier.isPublic(mods) || Modifier.isPrivate(mods), "public or private: " + m);
             holds(Modifier.isPublic(mods) || !names.contains(m.getName()), "a name of its own: " + m);
         }
-        Set<String> constants = new TreeSet<>();
+        for (Class<?> inside : BoathouseKey.class.getDeclaredClasses()) {
+            for (Method m : inside.getDeclaredMethods()) holds(!names.contains(m.getName()), "a name of its own: " + m);
+        }
+    }
+
+    private static void fields(Set<String> due) {
+        Set<String> is = new TreeSet<>();
         for (Field f : BoathouseKey.class.getDeclaredFields()) {
             int mods = f.getModifiers();
-            if (Modifier.isPublic(mods)) constants.add(f.getName());
+            if (Modifier.isPublic(mods)) is.add(f.getType() + " " + f.getName() + " = " + valueOf(f));
             holds(Modifier.isPublic(mods) || Modifier.isPrivate(mods), "public or private: " + f);
             holds(!Modifier.isStatic(mods) || Modifier.isFinal(mods), "static means final: " + f);
         }
-        holds(constants.equals(Set.of("UNKNOWN", "BAD", "LATE", "FULL", "NONE")), "the constants: " + constants);
-        Constructor<?>[] made = BoathouseKey.class.getDeclaredConstructors();
-        holds(made.length == 1 && Modifier.isPublic(made[0].getModifiers()) && made[0].getParameterCount() == 0, "one constructor");
-        holds(Modifier.isFinal(BoathouseKey.class.getModifiers()), "final");
-        for (Class<?> inside : BoathouseKey.class.getDeclaredClasses()) {
-            for (Method m : inside.getDeclaredMethods()) holds(!names.contains(m.getName()), "a name of its own: " + m);
+        holds(is.equals(due), "the constants are the document's: " + is);
+    }
+
+    private static String valueOf(Field constant) {
+        try {
+            return String.valueOf(constant.get(null));
+        } catch (IllegalAccessException e) {
+            return "hidden";
         }
     }
 
@@ -77,7 +108,8 @@ public final class LanguageTest {
         holds(inside.length < 12, "some twelve classes");
         checkClass(BoathouseKey.class);
         for (Class<?> c : inside) {
-            holds(Modifier.isStatic(c.getModifiers()), "static: " + c);
+            int mods = c.getModifiers();
+            holds(Modifier.isStatic(mods) && !Modifier.isPublic(mods) && !Modifier.isProtected(mods), "static, not seen: " + c);
             checkClass(c);
         }
     }
